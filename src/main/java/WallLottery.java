@@ -564,24 +564,25 @@ public final class WallLottery {
         }
 
         void advance() {
-            while (behind < tape.length && isBlank(tape.signs[behind])) {
+            while (behind < tape.length && (tape.signs[behind] == ' ' || tape.signs[behind] == 10)) {
                 behind++;
             }
             place = behind;
+            char first = behind < tape.length ? tape.signs[behind] : ' ';
             if (behind >= tape.length) {
                 sort = END;
-            } else if (isLetter(tape.signs[behind])) {
+            } else if (first >= 'a' && first <= 'z') {
                 readWord();
-            } else if (isDigit(tape.signs[behind])) {
+            } else if (first >= '0' && first <= '9') {
                 readNumber();
             } else {
-                readSign();
+                readSign(first);
             }
         }
 
         private void readWord() {
             letters = 0;
-            while (behind < tape.length && isLetter(tape.signs[behind])) {
+            while (behind < tape.length && tape.signs[behind] >= 'a' && tape.signs[behind] <= 'z') {
                 letters = letters * 32 + (tape.signs[behind] - 'a' + 1);
                 behind++;
             }
@@ -596,29 +597,17 @@ public final class WallLottery {
 
         private void readNumber() {
             number = 0;
-            while (behind < tape.length && isDigit(tape.signs[behind])) {
+            while (behind < tape.length && tape.signs[behind] >= '0' && tape.signs[behind] <= '9') {
                 number = number * 10 + (tape.signs[behind] - '0');
                 behind++;
             }
             sort = behind - place <= LONGEST_NUMBER ? NUMBER : NO_TOKEN;
         }
 
-        private void readSign() {
-            sign = tape.signs[behind];
-            sort = "()<=+-*;".indexOf(sign) >= 0 ? SIGN : NO_TOKEN;
+        private void readSign(char first) {
+            sign = first;
+            sort = "()<=+-*;".indexOf(first) >= 0 ? SIGN : NO_TOKEN;
             behind++;
-        }
-
-        private static boolean isBlank(char sign) {
-            return sign == 10 || sign == ' ';
-        }
-
-        private static boolean isLetter(char sign) {
-            return sign >= 'a' && sign <= 'z';
-        }
-
-        private static boolean isDigit(char sign) {
-            return sign >= '0' && sign <= '9';
         }
 
         /** Tells the FAULT of this token; false, so that a reader can answer with it. */

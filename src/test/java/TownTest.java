@@ -20,6 +20,7 @@ public final class TownTest {
         leastKind();
         allStays();
         allAnew();
+        manyTowns();
         Check.end();
     }
 
@@ -240,6 +241,8 @@ public final class TownTest {
         x.draw(3);
         x.lend(0, 1, 1);
         x.tale(0, 1, true);
+        x.tale(0, 1, false);
+        x.mark(0, false);
         x.mark(2, false);
         Check.feed(x, Check.TWO + "owes dd cc 7;");
         Check.due("town", x.town(), 0);
@@ -247,7 +250,7 @@ public final class TownTest {
         for (int what = 0; what < due.length; what++) {
             Check.due("anew: count " + what, x.count(what), due[what]);
         }
-        Check.due("anew: no mark", x.mark(2, true), false);
+        Check.due("anew: no mark", x.mark(0, true) || x.mark(2, true), false);
         Check.due("anew: nothing to undo", x.undo(), false);
         Check.due("anew: first house", x.family(0, 4), 0);
         Check.due("anew: second house", x.family(1, 4), 1);
@@ -256,5 +259,21 @@ public final class TownTest {
         Check.due("an empty town", x.town(), 0);
         Check.due("no houses", x.count(0), 0);
         Check.due("one way", x.how(), 1);
+    }
+
+    private static void manyTowns() {
+        // nothing of a law is left behind for the next town's, however many there are
+        WallLottery x = new WallLottery();
+        for (int i = 0; i < 40; i++) {
+            Check.feed(x, "house a;family f plain loud 0 ears 0 coins 0;joy " + i + " + 0".repeat(24) + ";");
+            Check.due("town " + i, x.town(), 0);
+            Check.due("joy " + i, x.joy(0), i);
+            Check.due("hope " + i, x.hope(0), 1000 * i);
+        }
+        Check.feed(x, "house a;house b;wall a b 1;family f plain loud 0 ears 0 coins 0;");
+        Check.due("the last one", x.town(), 0);
+        Check.due("its law is the untold one", x.joy(0), 0);
+        Check.due("hope by it", x.hope(0), 0);
+        Check.due("its walls", x.count(2), 1);
     }
 }
