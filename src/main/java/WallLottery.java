@@ -738,7 +738,7 @@ public final class WallLottery {
         }
 
         /** Reads an E as far as it goes; what stands behind it is for the caller. */
-        boolean readChain(Tokens tokens, int law, int depth) {
+        private boolean readChain(Tokens tokens, int law, int depth) {
             if (!readTest(tokens, law, depth)) {
                 return false;
             }

@@ -43,6 +43,81 @@ final class Check {
         }
     }
 
+    /** Reads a text as a TOWN on a new object; in it @ stands ahead of the token that must be told as wrong. */
+    static void townFault(int kind, String marked) {
+        WallLottery x = new WallLottery();
+        feed(x, marked.replace("@", ""));
+        due("town: " + marked, x.town(), kind + 16 * marked.indexOf('@'));
+        due("no town by " + marked, x.count(0), 0);
+        due("the tape is taken by " + marked, x.count(12), 0);
+    }
+
+    /** Likewise as DAYS, in the town TWO. */
+    static void daysFault(int kind, String marked) {
+        WallLottery x = town(TWO);
+        feed(x, marked.replace("@", ""));
+        due("days: " + marked, x.days(), kind + 16 * marked.indexOf('@'));
+        due("no days by " + marked, x.count(9), 0);
+        due("the tape is taken by " + marked, x.count(12), 0);
+    }
+
+    /** Lines of so many HOUSES a, b, .. */
+    static String houses(int many) {
+        StringBuilder text = new StringBuilder();
+        for (int i = 0; i < many; i++) {
+            text.append("house ").append((char) ('a' + i)).append(";");
+        }
+        return text.toString();
+    }
+
+    /** Lines of so many plain FAMILIES fa, fb, .. without a sound, with so many coins each. */
+    static String families(int many, int coins) {
+        StringBuilder text = new StringBuilder();
+        for (int i = 0; i < many; i++) {
+            text.append("family f").append((char) ('a' + i)).append(" plain loud 0 ears 0 coins ").append(coins)
+                .append(";");
+        }
+        return text.toString();
+    }
+
+    /** Lines of walls, 1 thick, told as "ab bc". */
+    static String walls(String pairs) {
+        StringBuilder text = new StringBuilder();
+        for (String pair : pairs.split(" ")) {
+            text.append("wall ").append(pair.charAt(0)).append(" ").append(pair.charAt(1)).append(" 1;");
+        }
+        return text.toString();
+    }
+
+    /** All that can be seen of an object without changing it, but for its TAPE: to see that nothing has changed. */
+    static String picture(WallLottery x) {
+        StringBuilder seen = new StringBuilder();
+        for (int what = 0; what < 12; what++) {
+            seen.append(x.count(what)).append(' ');
+        }
+        for (int f = 0; f < x.count(1); f++) {
+            for (int what = 3; what < 8; what++) {
+                seen.append(x.family(f, what)).append(' ');
+            }
+            for (int o = 0; o < x.count(1); o++) {
+                seen.append(x.owes(f, o)).append(' ').append(x.were(f, o)).append(' ');
+            }
+            seen.append(x.joy(f)).append(' ').append(x.hope(f)).append(' ').append(x.mend(f)).append(' ')
+                .append(x.please(2 + f)).append(' ').append(x.quiet(f)).append(' ').append(x.gains(f)).append(';');
+        }
+        for (int what = 0; what < 3; what++) {
+            seen.append(x.judged(what)).append(' ').append(x.centuries(5, 9, what)).append(' ');
+        }
+        return seen.append(x.broken()).append(' ').append(x.how()).append(' ').append(x.ask()).toString();
+    }
+
+    static void samePicture(String what, String got, String want) {
+        if (!got.equals(want)) {
+            System.out.println(got + "\nis not\n" + want);
+        }
+        due(what, got.equals(want), true);
+    }
+
     static void feed(WallLottery x, String text) {
         for (int i = 0; i < text.length(); i += 24) {
             x.feed(eight(text, i), eight(text, i + 8), eight(text, i + 16));

@@ -8,11 +8,7 @@ public final class DaysTest {
     }
 
     private static void fault(int kind, String marked) {
-        WallLottery x = Check.town(Check.TWO);
-        Check.feed(x, marked.replace("@", ""));
-        Check.due("days: " + marked, x.days(), kind + 16 * marked.indexOf('@'));
-        Check.due("no days by " + marked, x.count(9), 0);
-        Check.due("the tape is taken by " + marked, x.count(12), 0);
+        Check.daysFault(kind, marked);
     }
 
     private static void right() {

@@ -25,12 +25,7 @@ public final class TownTest {
     }
 
     private static void fault(int kind, String marked) {
-        int place = marked.indexOf('@');
-        WallLottery x = new WallLottery();
-        Check.feed(x, marked.replace("@", ""));
-        Check.due("town: " + marked, x.town(), kind + 16 * place);
-        Check.due("no town by " + marked, x.count(0), 0);
-        Check.due("the tape is taken by " + marked, x.count(12), 0);
+        Check.townFault(kind, marked);
     }
 
     private static void two(int kind, String marked) {
